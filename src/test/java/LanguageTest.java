@@ -20,6 +20,7 @@ public final class LanguageTest {
     none(code, "static (?!final|class|int|boolean|String|Token|long)", "5: no static state");
     none(code, "\"\"\\s*\\+|\\+\\s*\"\"", "10: no joining of texts by +");
     none(code, "[^\\x00-\\x7f]", "4: signs 1 to 127");
+    none(code, "\\n {4}(?!private |public )[A-Za-z].*", "1: no package-visible member of the class itself");
     none(code, "public (?!static final int NONE|final class CitingLetters|CitingLetters\\(\\)|int \\w+\\(|boolean \\w+\\()", "1: the face alone is public");
     count(code, "\\b(class|enum|interface|record) \\w+", 12, "11: classes");
     methods(lines);
