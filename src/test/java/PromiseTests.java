@@ -1,34 +1,11 @@
-import java.util.NoSuchElementException;
-
 /** Each promise by itself: ordinary inputs, the edges that the document names, wrong inputs. Worked out by hand. */
-public final class PromiseTests {
-  private static final int NONE = CitingLetters.NONE;
+public final class PromiseTests extends TestCalls {
   private static int wrong = 0;
 
   private static void due(int promise, String what, long got, long want) {
     if (got != want) { wrong++; System.out.println("promise " + promise + ": " + what + " answered " + got + ", due is " + want); }
   }
   private static void due(int promise, String what, boolean got, boolean want) { due(promise, what, got ? 1 : 0, want ? 1 : 0); }
-
-  /** Feeds a text and tells how many lines. */
-  private static int told(CitingLetters x, String text) {
-    StringBuilder s = new StringBuilder(text);
-    while (s.length() % 20 != 0) s.append(' ');
-    for (int k = 0; k < s.length(); k += 20) {
-      int[] n = new int[5];
-      for (int i = 0; i < 20; i++) n[i / 4] = n[i / 4] << 8 | s.charAt(k + i);
-      x.feed(n[0], n[1], n[2], n[3], n[4]);
-    }
-    return x.text(text.length());
-  }
-  private static CitingLetters with(String text) {
-    CitingLetters x = new CitingLetters();
-    if (told(x, text) < 0) throw new IllegalStateException("no good text: " + text);
-    return x;
-  }
-  private static int mail(CitingLetters x, int from, int to) { return x.write(from, to, 0, NONE, NONE); }
-  private static int mail(CitingLetters x, int from, int to, int one) { return x.write(from, to, 0, one, NONE); }
-  private static String times(String s, int n) { StringBuilder b = new StringBuilder(); for (int k = 0; k < n; k++) b.append(s); return b.toString(); }
 
   public static void main(String[] args) {
     newObject(); tape(); faults(); knots(); expressions(); lines();
@@ -454,20 +431,9 @@ public final class PromiseTests {
     due(28, "today", x.readOn(1, 0), 5);
   }
 
-  private static int thrown(CitingLetters x, int letter, int what) {
-    try {
-      x.look(letter, what);
-      return 0;
-    } catch (IndexOutOfBoundsException e) {
-      return 1;
-    } catch (NoSuchElementException e) {
-      return 2;
-    }
-  }
-
   private static void look() {
     CitingLetters x = new CitingLetters();
-    due(13, "no letter", thrown(x, 0, 0), 1);
+    due(13, "no letter", looked(x, 0, 0), NO_LETTER);
     x.days(4);
     mail(x, 3, 1);
     x.write(3, 36, 2, 0, NONE);
@@ -476,11 +442,11 @@ public final class PromiseTests {
     for (int k = 0; k < 6; k++) due(13, "what " + k, x.look(1, k), want[k]);
     due(13, "answers two", x.look(2, 5), 1);
     due(13, "answers none", x.look(0, 4), NONE);
-    due(13, "what 6", thrown(x, 2, 6), 2);
-    due(13, "what -1", thrown(x, 2, -1), 2);
-    due(13, "letter -1", thrown(x, -1, 0), 1);
-    due(13, "letter 3, what 6", thrown(x, 3, 6), 1);
-    due(13, "what 0", thrown(x, 2, 0), 0);
+    due(13, "what 6", looked(x, 2, 6), NO_WHAT);
+    due(13, "what -1", looked(x, 2, -1), NO_WHAT);
+    due(13, "letter -1", looked(x, -1, 0), NO_LETTER);
+    due(13, "letter 3, what 6", looked(x, 3, 6), NO_LETTER);
+    due(13, "what 0", looked(x, 2, 0), 3);
   }
 
   private static void copyAndDesk() {
@@ -503,19 +469,6 @@ public final class PromiseTests {
     due(15, "-1", x.desk(5, -1), NONE);
     due(15, "writer 6", x.desk(6, 0), NONE);
     due(15, "writer -1", x.desk(-1, 0), NONE);
-  }
-
-  /** 0 by w0 to w1; 1 by w0 to w2; 2 by w1 answers 0, to w2; 3 by w2, who has read 1 and 2; 4 by w3 alone. */
-  private static CitingLetters five() {
-    CitingLetters x = new CitingLetters();
-    mail(x, 0, 2);
-    mail(x, 0, 4);
-    x.days(5);
-    mail(x, 1, 4, 0);
-    x.days(5);
-    mail(x, 2, 1, 2);
-    mail(x, 3, 16);
-    return x;
   }
 
   private static void before() {
@@ -735,12 +688,6 @@ public final class PromiseTests {
     due(32, "one was burnt", x.could(0, 2), NONE);
     due(41, "LEFT", x.count(6), 4);
     due(16, "burnt letters stay what they were", x.before(2, 3), 1);
-  }
-
-  private static int list(int... n) {
-    int bits = 0;
-    for (int v = 0; v < n.length; v++) bits |= n[v] << 5 * v;
-    return bits;
   }
 
   private static void forged() {
