@@ -11,6 +11,12 @@ final class DayBoundaries extends Sentences {
       due("beyond", x.days(1), NONE);
       due("TODAY", x.count(0), 999);
     });
+    says("Term 1", "A DAY goes by: TODAY is one more", () -> {
+      CitingLetters x = new CitingLetters();
+      for (int day = 1; day <= 400; day++) due("days(1)", x.days(1), day);
+      due("days(99)", x.days(99), 499);
+      due("days(99)", x.days(99), 598);
+    });
     says("Promise 11", "So many DAYS go by (0 .. 99): TODAY", () -> {
       CitingLetters x = new CitingLetters();
       due("days(0)", x.days(0), 0);

@@ -122,6 +122,20 @@ final class DoubtBoundaries extends Sentences {
   }
 
   private static void could() {
+    says("Term 4", "LEFT are LETTERS that weren't BURNT. COULD of a, b (both LEFT, unlike ones)", () -> {
+      CitingLetters x = new CitingLetters();
+      mails(x, 30, 0, 2);
+      due("LEFT", x.count(6), 30);
+      due("burn(29)", x.burn(29), 29);
+      due("burn(0)", x.burn(0), 28);
+      due("LEFT", x.count(6), 28);
+      due("LETTERS", x.count(1), 30);
+      due("a was BURNT", x.could(0, 1), NONE);
+      due("b was BURNT", x.could(1, 29), NONE);
+      due("both LEFT", x.could(1, 28), 1);
+      due("both were BURNT", x.could(0, 29), NONE);
+      due("BURNT, and BEFORE still", x.before(0, 29), 1);
+    });
     says("Promise 32", "COULD; NONE: no such ones, both the same, or one was BURNT", () -> {
       CitingLetters x = five();
       for (int k = 0; k < 5; k++) due("both the same", x.could(k, k), NONE);
@@ -240,6 +254,23 @@ final class DoubtBoundaries extends Sentences {
       due("the last five bits: one more", x.forged(5, 10, 2 << 25), 1);
       due("their highest alone", x.forged(5, 10, 1 << 29), 1);
       due("the first five bits: 16", x.forged(4, 10, 16), 1);
+    });
+    says("Term 4", "NUMBERS for all six", () -> {
+      CitingLetters x = new CitingLetters();
+      for (int w = 0; w < 6; w++) mails(x, w + 1, w, 63 ^ 1 << w);
+      x.days(5);
+      for (int w = 0; w < 6; w++) {
+        int all = list(1, 2, 3, 4, 5, 6);
+        due("all there are, by " + w, x.forged(w, 5, all), 0);
+        due("his next, by " + w, x.forged(w, 5, all + (1 << 5 * w)), 0);
+        due("his next but one, by " + w, x.forged(w, 5, all + (2 << 5 * w)), 1);
+        int v = (w + 3) % 6;
+        due("one too many of " + v + ", by " + w, x.forged(w, 5, all + (1 << 5 * v)), 1);
+        due("one fewer of " + v + ", by " + w, x.forged(w, 5, all - (1 << 5 * v)), 0);
+        due("one fewer of his, by " + w, x.forged(w, 5, all - (1 << 5 * w)), 3);
+      }
+      due("all six could", x.forgers(5, list(1, 2, 3, 4, 5, 6)), 63);
+      due("one could", x.forgers(5, list(1, 2, 3, 5, 5, 6)), 8);
     });
     says("Promise 33", "NONE: no such WRITER, DAY (beyond TODAY), list below 0", () -> {
       CitingLetters x = five();

@@ -152,6 +152,17 @@ final class HabitBoundaries extends Sentences {
   }
 
   private static void habits() {
+    says("Term 2", "LINE by LINE of answer and round", () -> {
+      CitingLetters x = with("answer mine=7;round mine=1;answer mine=0;round mine=1;answer mine=2;read hand 1;answer mine=2;round mine=3;answer mine=4;");
+      mail(x, 0, 2);
+      x.days(5);
+      due("HELD", x.count(4), 1);
+      x.read(1, 0);
+      int[] to = {1, 61, 1, 61, 1};
+      for (int k = 0; k < 4; k++) due("look(" + (1 + k) + ", 3)", x.look(1 + k, 3), to[k]);
+      due("the eighth", x.look(5, 3), 1);
+      due("LETTERS", x.count(1), 6);
+    });
     says("Term 2", "in which he is told (or none is)", () -> {
       CitingLetters x = with("answer 1 by 1;round 1 by 2;answer 1;");
       mail(x, 0, 14);

@@ -70,6 +70,21 @@ final class OrderBoundaries extends Sentences {
       due("one of each in the set", x.orders(6), 2);
       due("BEFORE holds over what isn't in the set", x.orders(9), 1);
     });
+    says("Term 5", "ORDERS of a set of LETTERS, 12 at most", () -> {
+      CitingLetters x = new CitingLetters();
+      mails(x, 30, 0, 2);
+      int twelve = TWELVE << 18, thirteen = THIRTEEN << 17;
+      due("orders of 12", x.orders(twelve), 1);
+      due("orders of 13", x.orders(thirteen), NONE);
+      for (int p = 0; p < 12; p++) due("order of 12", x.order(twelve, 0, p), 18 + p);
+      due("a 13th place", x.order(twelve, 0, 12), NONE);
+      due("order of 13", x.order(thirteen, 0, 0), NONE);
+      due("first of 12", x.first(twelve, 18, 29), 1);
+      due("first of 13", x.first(thirteen, 18, 29), NONE);
+      due("ask of 12", x.ask(twelve), 32 * 18 + 19);
+      due("ask of 13", x.ask(thirteen), NONE);
+      due("every other one", x.orders(0b101010_101010_101010_101010), 1);
+    });
     says("Promise 36", "How many ORDERS a set (bits) has (1 of none)", () -> {
       due("of none, without LETTERS", new CitingLetters().orders(0), 1);
       CitingLetters x = five();
@@ -157,6 +172,13 @@ final class OrderBoundaries extends Sentences {
       due("ask(31)", x.ask(31), 32 * 1 + 4);
       due("ask(29), without 1: 2 ahead of 4 in two of four", x.ask(29), 32 * 2 + 4);
       due("ask(25), without 1 and 2: one of three, both", x.ask(25), 32 * 0 + 4);
+    });
+    says("Term 5", "a lesser than b", () -> {
+      CitingLetters x = five();
+      x.ahead(2, 1);
+      due("2 is ahead of 1", x.ask(6), 32 * 1 + 2);
+      due("and of 4 or not", x.ask(22), 32 * 1 + 4);
+      due("by their numbers, not their WRITERS", thirty().ask(1 << 24 | 1 << 5), 32 * 5 + 24);
     });
     says("Term 5", "of several the first by a, then b", () -> {
       CitingLetters x = five();

@@ -30,6 +30,20 @@ final class PastBoundaries extends Sentences {
   }
 
   private static void before() {
+    says("Term 3", "APART: neither is BEFORE the other", () -> {
+      CitingLetters x = new CitingLetters();
+      mail(x, 0, 2);
+      mail(x, 1, 1);
+      x.days(5);
+      due("written on one DAY, READ by both", x.before(0, 1), 0);
+      due("the other way round", x.before(1, 0), 0);
+      mail(x, 0, 2);
+      mail(x, 1, 1);
+      due("each is BEFORE the other's next", x.before(0, 3), 1);
+      due("each is BEFORE the other's next", x.before(1, 2), 1);
+      due("the next ones", x.before(2, 3), 0);
+      due("the next ones", x.before(3, 2), 0);
+    });
     says("Promise 16", "1: a is BEFORE b, 2: b is BEFORE a, 0: APART", () -> {
       CitingLetters x = five();
       due("before(0, 3)", x.before(0, 3), 1);
@@ -223,6 +237,15 @@ final class PastBoundaries extends Sentences {
       CitingLetters y = new CitingLetters();
       mails(y, 30, 0, 2);
       due("through 28 others", y.tells(0, 29, 3), 1);
+    });
+    says("Promise 22", "TELLING (1, 0) by a way of bearing 0 .. 3", () -> {
+      CitingLetters x = five();
+      int[] apart = {0, 1, 0, 0};
+      for (int bearing = 0; bearing <= 3; bearing++) {
+        due("tells(2, 3, " + bearing + ")", x.tells(2, 3, bearing), 1);
+        due("tells(3, 2, " + bearing + ")", x.tells(3, 2, bearing), 0);
+        due("tells(4, 3, " + bearing + ")", x.tells(4, 3, bearing), apart[bearing]);
+      }
     });
     says("Promise 22", "NONE: no such ones, both the same", () -> {
       CitingLetters x = five();

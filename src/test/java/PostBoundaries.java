@@ -326,6 +326,19 @@ final class PostBoundaries extends Sentences {
       due("none any more", comes(0, 5, 9), 5);
       due("one of each", comes(62, 5, 9), 10);
     });
+    says("Term 1", "SPLIT: a half (bits of WRITERS) and DAYS from .. to", () -> {
+      for (int half = 0; half < 64; half++) {
+        CitingLetters x = new CitingLetters();
+        due("split(" + half + ", 5, 5)", x.split(half, 5, 5), true);
+        for (int w = 0; w < 6; w++) mail(x, w, 63 ^ 1 << w);
+        int c = 0;
+        for (int w = 0; w < 6; w++) {
+          for (int v = 0; v < 6; v++) {
+            if (v != w) due("from " + w + " to " + v + ", half " + half, x.copy(c++, 2), (half >> w & 1) == (half >> v & 1) ? 5 : 6);
+          }
+        }
+      }
+    });
     says("Term 1", "a COPY posted between the halves", () -> {
       CitingLetters x = new CitingLetters();
       mail(x, 0, 2);
@@ -388,6 +401,14 @@ final class PostBoundaries extends Sentences {
   }
 
   private static void look() {
+    says("Promise 13", "Of a LETTER, what 0: WRITER, 1: DAY, 2: KIND, 3: to whom, 4, 5: what it ANSWERS", () -> {
+      CitingLetters x = five();
+      x.write(5, 31, 1, NONE, NONE);
+      x.write(0, 62, 0, 1, 0);
+      int[][] want = {{0, 0, 0, 2, NONE, NONE}, {0, 0, 0, 4, NONE, NONE}, {1, 5, 0, 4, 0, NONE}, {2, 10, 0, 1, 2, NONE},
+          {3, 10, 0, 16, NONE, NONE}, {5, 10, 1, 31, NONE, NONE}, {0, 10, 0, 62, 1, 0}};
+      for (int k = 0; k < 7; k++) for (int what = 0; what < 6; what++) due("look(" + k + ", " + what + ")", x.look(k, what), want[k][what]);
+    });
     says("Promise 13", "what it ANSWERS (NONE)", () -> {
       CitingLetters x = five();
       due("look(0, 4)", x.look(0, 4), NONE);
@@ -423,6 +444,17 @@ final class PostBoundaries extends Sentences {
       x.days(1);
       for (int c = 0; c < 3; c++) due("copy(" + c + ", 3) on day 5", x.copy(c, 3), behind[c]);
       for (int c = 0; c < 3; c++) due("copy(" + c + ", 2)", x.copy(c, 2), day[c]);
+    });
+    says("Promise 14", "Of a COPY, what 0: its LETTER, 1: to whom", () -> {
+      CitingLetters x = new CitingLetters();
+      mail(x, 0, 32);
+      mail(x, 5, 3);
+      x.again(0, 0, 3);
+      int[] letter = {0, 1, 1, 0}, reader = {5, 0, 1, 3};
+      for (int c = 0; c < 4; c++) {
+        due("copy(" + c + ", 0)", x.copy(c, 0), letter[c]);
+        due("copy(" + c + ", 1)", x.copy(c, 1), reader[c]);
+      }
     });
     says("Promise 14", "NONE: no such ones", () -> {
       CitingLetters x = new CitingLetters();

@@ -50,6 +50,16 @@ final class TextBoundaries extends Sentences {
       due("text(1)", x.text(1), NONE);
       due("place", x.fault(1), 0);
     });
+    says("Promise 2", "how many it has", () -> {
+      CitingLetters x = new CitingLetters();
+      for (int k = 1; k <= 20; k++) due("feed", x.feed(0, 0, 0, 0, 0), 20 * k);
+      x.text(0);
+      due("feed behind text(0)", x.feed(0, 0, 0, 0, 0), 20);
+      x.text(21);
+      due("feed behind -2", x.feed(0, 0, 0, 0, 0), 40);
+      x.text(1);
+      due("feed behind a FAULT", x.feed(0, 0, 0, 0, 0), 20);
+    });
     says("Promise 2", "NONE, and none come, if it would have more than 400", () -> {
       CitingLetters x = new CitingLetters();
       for (int k = 1; k <= 19; k++) feed(x, " ");
