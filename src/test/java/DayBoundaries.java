@@ -180,11 +180,14 @@ final class DayBoundaries extends Sentences {
       x.days(5);
       due("desk(1, 0)", x.desk(1, 0), 0);
       due("desk(5, 1)", x.desk(5, 1), 1);
-      for (int k : new int[] {-1, 2, 30, Integer.MIN_VALUE, Integer.MAX_VALUE}) due("desk(1, " + k + ")", x.desk(1, k), NONE);
+      for (int k : new int[] {-1, 2, 3, 29, 30, Integer.MIN_VALUE, Integer.MAX_VALUE}) due("desk(1, " + k + ")", x.desk(1, k), NONE);
       for (int no : new int[] {-1, 6, 32, Integer.MIN_VALUE, Integer.MAX_VALUE}) due("desk(" + no + ", 0)", x.desk(no, 0), NONE);
       x.read(1, 0);
       due("the next moves up", x.desk(1, 0), 1);
       due("one fewer", x.desk(1, 1), NONE);
+      due("two fewer", x.desk(1, 2), NONE);
+      x.read(1, 1);
+      for (int k = 0; k < 3; k++) due("none is left, desk(1, " + k + ")", x.desk(1, k), NONE);
     });
     says("Promise 15", "The k-th LETTER that a WRITER HOLDS", () -> {
       CitingLetters x = with("read hand;");

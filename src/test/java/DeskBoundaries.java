@@ -128,6 +128,11 @@ final class DeskBoundaries extends Sentences {
       x.read(2, 0);
       due("who has READ it by hand", x.has(0), 1 + 2 + 4 + 32);
       for (int no : new int[] {-1, 1, 30, 32, Integer.MIN_VALUE, Integer.MAX_VALUE}) due("has(" + no + ")", x.has(no), NONE);
+      go(x, 989);
+      mail(x, 4, 2);
+      due("its WRITER, late in time", x.has(1), 16);
+      due("on the last DAY", x.days(5), 999);
+      due("who has READ it on the last DAY", x.has(1), 16 + 2);
     });
   }
 

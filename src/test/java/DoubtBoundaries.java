@@ -217,6 +217,14 @@ final class DoubtBoundaries extends Sentences {
       due("on its DAY", x.forged(2, 10, list(0, 0, 1)), 2);
       due("as it is", x.forged(2, 10, list(2, 1, 1)), 0);
       due("his next one isn't there", x.forged(2, 10, list(2, 1, 2)), 0);
+      x.days(3);
+      due("DAYS behind it", x.forged(2, 13, list(0, 0, 1)), 2);
+      due("DAYS behind it, less of 1 alone", x.forged(2, 13, list(2, 0, 1)), 2);
+      due("DAYS behind it, as it is", x.forged(2, 13, list(2, 1, 1)), 0);
+      due("the DAY ahead of it still", x.forged(2, 9, list(0, 0, 1)), 0);
+      mail(x, 2, 1, 3);
+      due("his next one, written DAYS behind", x.forged(2, 12, list(0, 0, 2)), 3);
+      due("his next one, on its DAY", x.forged(2, 13, list(0, 0, 2)), 2);
     });
   }
 

@@ -320,6 +320,11 @@ final class HabitBoundaries extends Sentences {
       String[] none = {"(0 and 7)", "(7 and 0)", "(0 or 0)", "(not 5)", "(not (0-5))", "(1<1)", "(2<=1)", "(1=2)", "(1<>1)", "(1>=2)", "(1>1)", "(0 and 0)"};
       for (String e : none) holds(e + "=0", true);
     });
+    says("Term 2", "C: S [ ( < | <= | = | <> | >= | > ) S ]", () -> {
+      String[] sign = {"<", "<=", "=", "<>", ">=", ">"};
+      boolean[][] holds = {{true, false, false}, {true, true, false}, {false, true, false}, {true, false, true}, {false, true, true}, {false, false, true}};
+      for (int k = 0; k < 6; k++) for (int a = 1; a <= 3; a++) holds(a + sign[k] + "2", holds[k][a - 1]);
+    });
     says("Term 2", "E holds if it isn't 0", () -> {
       holds("0", false);
       holds("1", true);
@@ -343,6 +348,11 @@ final class HabitBoundaries extends Sentences {
       holds("not 1 or 1", true);
       holds("not (1 or 1)", false);
       holds("not 0 and 0", false);
+      holds("1 and not 0", true);
+      holds("1 and not 1", false);
+      holds("0 or not 7", false);
+      holds("0 or not not 7", true);
+      holds("3+(not 0)=4", true);
       holds("not 1=2", true);
       holds("not 2<1+1", true);
       holds("(not 2)<1", true);

@@ -34,6 +34,14 @@ final class OrderBoundaries extends Sentences {
       due("one apart from those", x.ahead(2, 1), 4);
       due("against it", x.ahead(1, 2), NONE);
     });
+    says("Promise 35", "it would go against BEFORE", () -> {
+      CitingLetters x = thirty();
+      for (int k = 0; k < 24; k++) due("ahead(" + (k + 6) + ", " + k + ")", x.ahead(k + 6, k), NONE);
+      due("the last of 0 ahead of the first of 5", x.ahead(24, 5), 1);
+      due("the last of 5 ahead of the first of 0", x.ahead(29, 0), NONE);
+      due("the first of 5 ahead of the first of 0", x.ahead(5, 0), NONE);
+      due("the first of 0 ahead of the last of 5", x.ahead(0, 29), 2);
+    });
     says("Promise 35", "those told (all together)", () -> {
       CitingLetters x = new CitingLetters();
       for (int w = 0; w < 6; w++) mail(x, w, 63 ^ 1 << w);
@@ -228,6 +236,23 @@ final class OrderBoundaries extends Sentences {
       due("the one that takes it back alone, by BEFORE", x.hangs(4, 1), 64);
       x.burn(2);
       due("through what was BURNT", x.hangs(0, 0), 4 + 8 + 32);
+      CitingLetters y = new CitingLetters();
+      mail(y, 0, 2);
+      for (int k = 1; k < 29; k++) mail(y, 0, 2, k - 1);
+      takeBack(y, 0, 2, 0);
+      // 0 and 1 by w0 to w1, who ANSWERS 1 alone; that is answered by w2
+      CitingLetters z = new CitingLetters();
+      mails(z, 2, 0, 2);
+      z.days(5);
+      mail(z, 1, 4, 1);
+      z.days(5);
+      mail(z, 2, 1, 2);
+      takeBack(z, 0, 2, 0);
+      due("nothing else ANSWERS it", z.hangs(0, 0), 16);
+      due("it is BEFORE all others", z.hangs(0, 1), 2 + 4 + 8 + 16);
+      due("29 of thirty, by ANSWERS", y.hangs(0, 0), (1 << 30) - 2);
+      due("29 of thirty, by BEFORE", y.hangs(0, 1), (1 << 30) - 2);
+      due("the last wasn't TAKEN BACK", y.hangs(29, 0), NONE);
     });
     says("Promise 40", "by ANSWERS (what 0), by BEFORE (1); NONE: it wasn't TAKEN BACK, no such ones", () -> {
       due("without LETTERS", new CitingLetters().hangs(0, 0), NONE);

@@ -94,6 +94,13 @@ final class PastBoundaries extends Sentences {
       for (int k = 0; k < 6; k++) { mail(y, k, 1 << (k + 1) % 6); y.days(5); }
       for (int k = 0; k < 6; k++) due("path(0, 5, " + k + ")", y.path(0, 5, k), k);
       due("path(0, 5, 6)", y.path(0, 5, 6), NONE);
+      // the longest there can be: two of the first WRITER, of which he sends on the second alone, and one of each other
+      CitingLetters z = new CitingLetters();
+      mail(z, 0, 2);
+      z.lose(0);
+      for (int w = 0; w < 6; w++) { mail(z, w, 1 << (w + 1) % 6); z.days(5); }
+      for (int k = 0; k <= 6; k++) due("path(0, 6, " + k + ")", z.path(0, 6, k), k);
+      due("path(0, 6, 7)", z.path(0, 6, 7), NONE);
     });
     says("Term 3", "of several the first by numbers", () -> {
       // three ways of three steps: 0 1 4 5, 0 2 3 5, 0 2 4 5
@@ -169,6 +176,12 @@ final class PastBoundaries extends Sentences {
       due("a LETTER of 0 knew none of 1", x.pair(3, 1, 0), 0);
       due("without: none of 3 is BEFORE it", x.pair(3, 0, 3), 0);
       due("without: 1 isn't BEFORE 1", x.pair(1, 0, 1), 0);
+      // 2 by w2 has 0 by w0 BEFORE it through 1 by w1 alone
+      CitingLetters y = new CitingLetters();
+      for (int w = 0; w < 3; w++) { mail(y, w, 2 << w); y.days(5); }
+      due("of one that he himself hasn't READ", y.pair(2, 0, 0), 1);
+      due("of one that he has READ", y.pair(2, 0, 1), 1);
+      due("of his own", y.pair(2, 1, 2), 1);
     });
     says("Promise 20", "NONE: no such ones", () -> {
       due("without LETTERS", new CitingLetters().pair(0, 0, 0), NONE);
@@ -188,6 +201,14 @@ final class PastBoundaries extends Sentences {
       CitingLetters x = five();
       int[] want = {0, 1, 1, 6, 0};
       for (int k = 0; k < 5; k++) due("list(" + k + ")", x.list(k), want[k]);
+      // 0 by w1 went to w2 and w3, 1 by w2 to w3, who has READ both ahead of 2: 0 is BEFORE 1
+      CitingLetters z = new CitingLetters();
+      mail(z, 1, 12);
+      z.days(5);
+      mail(z, 2, 8);
+      z.days(5);
+      mail(z, 3, 1);
+      due("BEFORE one that is in it", z.list(2), 2);
       CitingLetters y = thirty();
       due("the last: his latest alone", y.list(29), 1 << 23);
       due("his first: none", y.list(5), 0);
@@ -197,6 +218,29 @@ final class PastBoundaries extends Sentences {
       CitingLetters x = five();
       for (int no : NO_LETTERS) due("list(" + no + ")", x.list(no), NONE);
     });
+  }
+
+  /** 0 and 1 by w0 to w1; 2 by w1, who has READ both, ANSWERS 1; 3 by w2 ANSWERS 2. */
+  private static CitingLetters unanswered() {
+    CitingLetters x = new CitingLetters();
+    mails(x, 2, 0, 2);
+    x.days(5);
+    mail(x, 1, 4, 1);
+    x.days(5);
+    mail(x, 2, 1, 2);
+    return x;
+  }
+
+  /** Of each word: `w>to` a WRITER writes, `w:l` he READS a LETTER by hand, `days` five DAYS go by. */
+  private static CitingLetters rows(String words) {
+    CitingLetters x = with("read hand;");
+    for (String word : words.split(" ")) {
+      String[] n = word.split("[>:]");
+      if (word.equals("days")) x.days(5);
+      else if (word.contains(">")) mail(x, Integer.parseInt(n[0]), Integer.parseInt(n[1]));
+      else if (x.read(Integer.parseInt(n[0]), Integer.parseInt(n[1])) == NONE) due("read(" + word + ")", NONE, 0);
+    }
+    return x;
   }
 
   private static void tells() {
@@ -212,6 +256,12 @@ final class PastBoundaries extends Sentences {
       due("the second that it ANSWERS", y.tells(1, 2, 0), 1);
       mail(y, 0, 2, 2);
       due("through the second", y.tells(1, 3, 0), 1);
+      CitingLetters z = unanswered();
+      due("what he who is answered had READ, and not answered", z.tells(0, 2, 0), 0);
+      due("through that answer", z.tells(0, 3, 0), 0);
+      due("BEFORE all the same", z.before(0, 3), 1);
+      due("what he answered", z.tells(1, 3, 0), 1);
+      due("the three that 0 is BEFORE", z.errs(0), 3);
     });
     says("Term 3", "1 by SUM: that of a is less", () -> {
       CitingLetters x = five();
@@ -313,6 +363,21 @@ final class PastBoundaries extends Sentences {
       u.days(5);
       for (int w = 3; w < 6; w++) mail(u, w, 1);
       due("what was left to one isn't left again", u.chains(63), 4);
+      // 0 BEFORE 4 and 6, 1 BEFORE 5 and 7, 2 BEFORE 4 and 5, 3 BEFORE 6 alone: 3 takes 6, 0 keeps 4, 2 takes 5, 1 leaves it for 7
+      CitingLetters v = new CitingLetters();
+      mail(v, 0, 8);
+      mail(v, 1, 4);
+      mail(v, 2, 1);
+      mail(v, 3, 16);
+      v.days(5);
+      for (int w : new int[] {0, 2, 3, 1}) mail(v, w, 32);
+      due("four pairs", v.chains(255), 4);
+      due("without 3", v.chains(247), 4);
+      due("without 7", v.chains(127), 4);
+      due("without 5", v.chains(223), 4);
+      // three WRITERS of whom none has READ of the last ones of the others: a row for each of them
+      due("of three WRITERS, six", rows("3>16 4>32 5>16 days 4:0 5>8 4>8 3>32").chains(63), 3);
+      due("of three WRITERS, ten", rows("3>32 5>4 2>32 days 5:0 2:1 2>32 2>2 2>32 5>16 5>8 3>32 5>16").chains(1023), 3);
     });
     says("Promise 24", "CHAINS of a set (bits); NONE: bits of no LETTERS", () -> {
       CitingLetters x = new CitingLetters();

@@ -46,6 +46,10 @@ final class PostBoundaries extends Sentences {
       CitingLetters x = new CitingLetters();
       for (int no : NO_WRITERS) due("write(" + no + ", 3, ..)", mail(x, no, 3), NONE);
       due("by 0 to 5", mail(x, 0, 32), 0);
+      for (int no : NO_WRITERS) {
+        due("write(" + no + ", 3, ..) taking back", takeBack(x, no, 3, 0), NONE);
+        due("write(" + no + ", 3, ..) that ANSWERS", mail(x, no, 3, 0), NONE);
+      }
       due("by 5 to 0", mail(x, 5, 1), 1);
     });
     says("Term 1", "LETTERS, at most 30, numbered from 0 on", () -> {

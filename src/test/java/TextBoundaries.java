@@ -91,6 +91,24 @@ final class TextBoundaries extends Sentences {
       due("text(20)", x.text(20), NONE);
       due("place", x.fault(1), 19);
       due("fault", x.fault(0), 3);
+      // what stands behind them is no part of the last TOKEN
+      String[] text = {"read hand 5", "answer 1 by 5", "answer 9", "answer 1<", "answer mine", "read hand"};
+      String[] behind = {"9", "9", "999", "=2;", "s;", "s;"};
+      for (int k = 0; k < text.length; k++) {
+        feed(x, text[k] + behind[k]);
+        due("text of '" + text[k] + "'", x.text(text[k].length()), NONE);
+        due("fault", x.fault(0), 1);
+        due("place", x.fault(1), text[k].length());
+      }
+    });
+    says("Promise 3", "The TAPE's first n bytes", () -> {
+      for (String sign : new String[] {";", "(", "5", "a", "<", "*", ">=", "1+"}) {
+        CitingLetters x = new CitingLetters();
+        due("400 bytes of " + sign, told(x, times(sign, 400 / sign.length())), NONE);
+        due("fault", x.fault(0), 1);
+        due("place", x.fault(1), 0);
+        due("the TAPE", x.text(1), -2);
+      }
     });
     says("Promise 3", "(it is empty then)", () -> {
       CitingLetters x = new CitingLetters();
